@@ -460,13 +460,15 @@ public final class SlipWheel {
             return soonWithin(all, next, slip, word, n - 1);
         }
         int together = 0;
+        int weights = 0;
         for (int other = 0; other < WORDS; other++) {
             if (holds(set, other)) {
                 int worth = other == word ? 1000 : soonWithin(all, next, slipWith(slip, other), word, n - 1);
-                together += all.cells.weightOf(cell, other) * worth;
+                int weight = all.cells.weightOf(cell, other);
+                together += weight * worth;
+                weights += weight;
             }
         }
-        int weights = all.cells.weightOfSet(cell, set);
         return weights > 0 ? together / weights : 0;
     }
 
@@ -480,7 +482,7 @@ public final class SlipWheel {
         for (int i = 0; i < n; i++) {
             int word = (words >> (3 * (n - 1 - i))) & 7;
             int seat = seats > 0 ? i % seats : 0;
-            if (seat < seatSets.length) {
+            if (seat >= 0 && seat < seatSets.length) {
                 seatSets[seat] &= now.cellsThatCanAdd(word, slip);
             }
             slip = slipWith(slip, word);
@@ -611,6 +613,12 @@ public final class SlipWheel {
         private final int[] weights = new int[MOST_CELLS * WORDS];
         private int number;
 
+        private Cells() {
+            for (int i = 0; i < weights.length; i++) {
+                weights[i] = 1;
+            }
+        }
+
         private void copyFrom(Cells other) {
             for (int cell = 0; cell < MOST_CELLS; cell++) {
                 kinds[cell] = other.kinds[cell];
@@ -628,15 +636,10 @@ public final class SlipWheel {
             if (number < 0 || number >= MOST_CELLS) {
                 return FULL;
             }
-            int cell = number;
+            // All else about a cell not made yet is as at first: an image keeps and brings back those rows too.
+            kinds[number] = kind;
             number++;
-            // A restored image can leave an older cell's traces at this number.
-            kinds[cell] = kind;
-            isDead[cell] = false;
-            for (int word = 0; word < WORDS; word++) {
-                changeWeight(cell, word, 1);
-            }
-            return cell;
+            return number - 1;
         }
 
         private int kindOf(int cell) {
@@ -691,8 +694,8 @@ public final class SlipWheel {
 
         private int weightedWords(int cell) {
             int set = 0;
-            for (int word = 0; word < WORDS; word++) {
-                if (has(cell) && weights[cell * WORDS + word] > 0) {
+            for (int word = 0; word < WORDS && has(cell); word++) {
+                if (weights[cell * WORDS + word] > 0) {
                     set |= 1 << word;
                 }
             }
@@ -941,7 +944,8 @@ public final class SlipWheel {
             for (int other = 0; other < WORDS; other++) {
                 habits += pages.habitOf(cell, other);
             }
-            return 16 * (pages.habitOf(cell, word) + 1) / (habits + 8);
+            int divisor = habits + 8;
+            return divisor > 0 ? 16 * (pages.habitOf(cell, word) + 1) / divisor : 0;
         }
 
         private int lineEndingAt(int place) {
@@ -1005,8 +1009,8 @@ public final class SlipWheel {
                     return turns;
                 }
                 int next = all.wheel.seatBehind(seat);
-                for (int i = first; i < behind && i < slips.length; i++) {
-                    spread(all, slips[i], seat, next);
+                for (int i = first; i < behind; i++) {
+                    spread(all, slipAt(i), seat, next);
                 }
                 first = behind;
                 seat = next;
@@ -1015,12 +1019,16 @@ public final class SlipWheel {
         }
 
         private boolean hasAim(Everything all, int first, int behind, int words, int n) {
-            for (int i = Math.max(0, first); i < behind && i < slips.length; i++) {
-                if (n == TO_THE_END ? all.hasEnded(slips[i]) : slipEndsWith(slips[i], words, n)) {
+            for (int i = first; i < behind; i++) {
+                if (n == TO_THE_END ? all.hasEnded(slipAt(i)) : slipEndsWith(slipAt(i), words, n)) {
                     return true;
                 }
             }
             return false;
+        }
+
+        private int slipAt(int i) {
+            return i >= 0 && i < slips.length ? slips[i] : EMPTY_SLIP;
         }
 
         private void spread(Everything all, int slip, int seat, int next) {

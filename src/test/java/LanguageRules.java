@@ -4,6 +4,8 @@ import com.sun.source.tree.CompilationUnitTree;
 import com.sun.source.tree.MethodInvocationTree;
 import com.sun.source.tree.MethodTree;
 import com.sun.source.tree.ModifiersTree;
+import com.sun.source.tree.NewArrayTree;
+import com.sun.source.tree.NewClassTree;
 import com.sun.source.tree.Tree;
 import com.sun.source.tree.VariableTree;
 import com.sun.source.util.JavacTask;
@@ -42,6 +44,7 @@ public final class LanguageRules {
         "reach(int,int)", "end()", "soon(int,int)", "forget(int)", "habit(int,int)", "guess(int)", "prevented(int)",
         "seated(int,int,int)", "image()", "restore()", "ways(int,int,int,int)", "differ(int,int,int,int,int)",
         "sheet(int,int,int)", "drop(int)", "item(int,int,int,int)", "film(int,int,int,int,int)"};
+    private static final Set<String> NAMES = new HashSet<>();
     private static int wrong = 0;
 
     private static void must(boolean holds, String what) {
@@ -54,7 +57,6 @@ public final class LanguageRules {
     private static void lookAtFace() {
         Set<String> face = new TreeSet<>(List.of(FACE));
         Set<String> found = new TreeSet<>();
-        Set<String> names = new HashSet<>();
         for (Method method : SlipWheel.class.getDeclaredMethods()) {
             StringBuilder types = new StringBuilder();
             for (Class<?> type : method.getParameterTypes()) {
@@ -62,7 +64,7 @@ public final class LanguageRules {
             }
             if (Modifier.isPublic(method.getModifiers())) {
                 found.add(method.getName() + "(" + types + ")");
-                names.add(method.getName());
+                NAMES.add(method.getName());
                 must(method.getReturnType() == int.class, "1: answer of " + method);
             } else {
                 must(Modifier.isPrivate(method.getModifiers()), "1: " + method);
@@ -70,7 +72,7 @@ public final class LanguageRules {
         }
         must(found.equals(face), "1: the face is " + found);
         for (Method method : SlipWheel.class.getDeclaredMethods()) {
-            must(Modifier.isPublic(method.getModifiers()) || !names.contains(method.getName()), "1: name of " + method);
+            must(Modifier.isPublic(method.getModifiers()) || !NAMES.contains(method.getName()), "1: name of " + method);
         }
         Set<String> constants = new TreeSet<>();
         for (Field field : SlipWheel.class.getDeclaredFields()) {
@@ -135,6 +137,8 @@ public final class LanguageRules {
             must(last - first < 60, "11: length of " + tree.getName());
             must(tree.getParameters().size() <= 7, "11: parameters of " + tree.getName());
             must(tree.getThrows().isEmpty(), "6: " + tree.getName());
+            boolean isOfTheFace = getCurrentPath().getParentPath().getParentPath().getLeaf() == unit;
+            must(isOfTheFace || !NAMES.contains(tree.getName().toString()), "1: name of " + tree.getName());
             calls.putIfAbsent(trees.getElement(getCurrentPath()), new HashSet<>());
             return super.visitMethod(tree, nothing);
         }
@@ -153,6 +157,27 @@ public final class LanguageRules {
                 must(LIBRARY.contains(owner + "." + called.getSimpleName()), "4: " + owner + "." + called);
             }
             return super.visitMethodInvocation(tree, nothing);
+        }
+
+        // All rows are made with the object: no call makes anything.
+        private void mustBeMadeAtFirst(String what) {
+            for (TreePath path = getCurrentPath(); path != null; path = path.getParentPath()) {
+                if (path.getLeaf() instanceof MethodTree method) {
+                    must(method.getName().contentEquals("<init>"), "12: " + what + " in " + method.getName());
+                }
+            }
+        }
+
+        @Override
+        public Void visitNewClass(NewClassTree tree, Void nothing) {
+            mustBeMadeAtFirst("an object");
+            return super.visitNewClass(tree, nothing);
+        }
+
+        @Override
+        public Void visitNewArray(NewArrayTree tree, Void nothing) {
+            mustBeMadeAtFirst("an array");
+            return super.visitNewArray(tree, nothing);
         }
 
         @Override

@@ -235,6 +235,7 @@ public final class PromiseTests {
         due("10 highest first", x.type('b' << 8 | 'c', 2), 3);
         due("10 n", x.type('a', 0), BAD);
         due("10 n", x.type('a', 9), BAD);
+        due("10 n", x.type(0x6161616161616161L, 9), BAD);
         due("10 n", x.type('a', LEAST), BAD);
         due("10 byte 31", x.type(31, 1), BAD);
         due("10 byte 127", x.type(127, 1), BAD);
@@ -400,6 +401,16 @@ public final class PromiseTests {
         due("16 above", x.odds(0, 3, 0), 1);
         due("16 below", x.odds(0, 3, 1), 2);
         due("16 no weight", x.odds(0, 0, 0), NONE);
+        x.weight(0, 4, 7);
+        due("16 nothing in common", x.odds(0, 4, 0), 7);
+        due("16 nothing in common", x.odds(0, 4, 1), 25);
+        x.weight(0, 5, 3);
+        x.weight(0, 6, 2);
+        due("16 by two", x.odds(0, 6, 0), 1);
+        due("16 by two", x.odds(0, 6, 1), 15);
+        for (int word = 4; word < 7; word++) {
+            x.weight(0, word, 0);
+        }
         due("16 mute", x.odds(1, 1, 0), NONE);
         x.line(3, 1);
         due("16 of those that can come", x.odds(0, 1, 0), 2);
@@ -581,6 +592,10 @@ public final class PromiseTests {
         far.draw(1);
         due("21 in 30", far.reach(6, 1), 30);
         due("21 in 36", far.reach(7, 1), NONE);
+        SlipWheel wide = withCells(0);
+        tongueOf(wide, "ab;abc;abcd;abcde;abcdef;abcdefg;abcdefgh;abcdefgh");
+        bookOf(wide, "a");
+        due("21 among many books", wide.reach(octal("777"), 3), 9);
     }
 
     private static void end() {
@@ -728,6 +743,38 @@ public final class PromiseTests {
         due("26 of none", y.guess(0), 0);
         // Of cell 0: 16 by 8; of cell 1: 80 by 12 is 6.
         due("26 most", y.guess(1), 1);
+        due("26 the first cell's is known", withWriters(0).guess(0), NOT);
+    }
+
+    private static SlipWheel withWriters(int... words) {
+        SlipWheel x = withCells(0, 0);
+        addAll(x, words);
+        return x;
+    }
+
+    // Of the told word and of others, cell 0 wrote as many as told, and cell 1.
+    private static int guessed(int told0, int others0, int told1, int others1) {
+        SlipWheel x = withCells(0, 0);
+        bookOf(x, "h");
+        int[] words = {7, 0, 7, 0};
+        int[] times = {told0, others0, told1, others1};
+        for (int i = 0; i < 4; i++) {
+            x.dead(0, i >= 2);
+            x.dead(1, i < 2);
+            for (int time = 0; time < times[i]; time++) {
+                x.add(words[i]);
+            }
+        }
+        return x.guess(0);
+    }
+
+    private static void guessByNumbers() {
+        // Of cell 0: 16 by 9 is 1; of cell 1: 16 by 8 is 2.
+        due("26 by its numbers", guessed(0, 1, 0, 0), 1);
+        // Of cell 0: 16 by 8 is 2; of cell 1: 32 by 10 is 3.
+        due("26 by its numbers", guessed(0, 0, 1, 1), 1);
+        // Of cell 0: 16 by 8 is 2; of cell 1: 32 by 11 is 2.
+        due("26 by its numbers", guessed(0, 0, 1, 2), 0);
     }
 
     private static void prevented() {
@@ -783,6 +830,15 @@ public final class PromiseTests {
         bookOf(z, "aaa");
         z.line(octal("0000"), 4);
         due("27 one word", z.prevented(0), 0);
+        SlipWheel shorter = withCells(0);
+        bookOf(shorter, "b");
+        shorter.line(octal("01"), 2);
+        shorter.line(octal("001"), 3);
+        due("27 a line does not begin ahead of the book", shorter.prevented(0), NONE);
+        SlipWheel first = withCells(0, 0);
+        addAll(first, 5);
+        first.line(5, 1);
+        due("27 the first cell", first.prevented(1), 1);
     }
 
     private static void seated() {
@@ -914,6 +970,12 @@ public final class PromiseTests {
         due("30 by the lines of then", x.come(0), 0b01111011);
         due("30 again", x.restore(), 1);
         due("30 again", x.count(0), 2);
+        SlipWheel y = withCells(0, 0, 0);
+        y.draw(2);
+        y.image();
+        y.draw(2);
+        y.restore();
+        due("30 where it stands", y.count(6), 2);
         due("30 lot again", x.seed(5), 77);
     }
 
@@ -1088,6 +1150,7 @@ public final class PromiseTests {
         due("36 the others stay", x.differ(0, 1, 0, 0, 1), 0);
         due("36 the others stay", x.differ(1, 1, 0, 1, 2), 2);
         due("36 to the end", x.film(7, 1, 1, 0, 0), 1);
+        due("36 the one behind stays", x.differ(0, 1, 0, 1, 1), 0);
         due("36 not there", x.film(7, 2, 1, 0, 0), BAD);
         due("36 not there", x.film(8, 1, 1, 0, 0), BAD);
         due("36 not there", x.film(-1, 2, 1, 0, 0), BAD);
@@ -1137,6 +1200,7 @@ public final class PromiseTests {
         forget();
         habit();
         guess();
+        guessByNumbers();
         prevented();
         seated();
         image();

@@ -417,6 +417,18 @@ public final class BoundariesOfCells extends Boundaries {
         due(x.weight(0, 3, 0), 7);
     }
 
+    static void promise05_weight_answersWhatItWasOfEachCell() {
+        SlipWheel x = wheel(SANE, SANE, SANE, SANE, SANE, SANE);
+        for (int cell = 0; cell < 6; cell++) {
+            x.weight(cell, 0, cell + 2);
+            x.weight(cell, 7, cell + 3);
+        }
+        for (int cell = 0; cell < 6; cell++) {
+            due(x.weight(cell, 0, 0), cell + 2);
+            due(x.weight(cell, 7, 0), cell + 3);
+        }
+    }
+
     static void promise05_weight_firstAndLastOnes() {
         SlipWheel x = wheel(SANE, SANE, SANE, SANE, SANE, SANE);
         x.weight(0, 0, 2);
@@ -960,7 +972,9 @@ public final class BoundariesOfCells extends Boundaries {
 
     static void promise11_tongue_bytesBesideTheLetters() {
         fault("`", 0);
+        fault("a;`", 2);
         fault("i", 0);
+        fault("-;i", 2);
         fault("A", 0);
         fault("a~", 1);
         fault("a!", 1);
@@ -1048,6 +1062,15 @@ public final class BoundariesOfCells extends Boundaries {
         due(tongue(x, "a"), 1);
         due(x.follow(1, 0), 6);
         due(x.follow(7, 0), 5);
+    }
+
+    static void promise11_tongue_inPlaceOfWhatMightFollow() {
+        SlipWheel x = wheel();
+        tongue(x, "a;bh;c");
+        due(tongue(x, "b;c;-"), 3);
+        due(x.follow(0, 0), set("b"));
+        due(x.follow(1, 0), set("c"));
+        due(x.follow(2, 255), 0);
     }
 
     static void promise11_tongue_theBookStays() {
@@ -1324,6 +1347,14 @@ public final class BoundariesOfCells extends Boundaries {
         due(x.count(7), 60);
         x.draw(60);
         due(x.count(7), 120);
+    }
+
+    static void promise13_count_turnsOfAsManyCallsAsThereMayBe() {
+        SlipWheel x = wheel(SANE, MUTE);
+        for (int call = 0; call < 509; call++) {
+            x.draw(60);
+        }
+        due(x.count(7), 509 * 60);
     }
 
     static void promise13_count_turnsStayByUndo() {

@@ -911,6 +911,40 @@ public final class BoundariesOfWheel extends Boundaries {
         due(x.reach(row("a"), 1), 7);
     }
 
+    static void promise21_reach_eachCellOnlyAtItsTurn() {
+        SlipWheel x = wheel(SANE, SANE);
+        onlyWords(x, 0, "b");
+        onlyWords(x, 1, "c");
+        book(x, "a");
+        due(x.reach(row("abc"), 3), 2);
+        due(x.reach(row("ac"), 2), NONE);
+        due(x.reach(row("bcb"), 3), 3);
+        due(x.reach(row("cc"), 2), NONE);
+    }
+
+    static void promise21_reach_amongAllBooks() {
+        SlipWheel x = wheel(SANE, SANE, SANE, SANE, SANE, SANE);
+        for (int cell = 0; cell < 6; cell++) {
+            x.weight(cell, 7, cell == 5 ? 1 : 0);
+        }
+        due(x.reach(row("h"), 1), 6);
+        due(x.reach(row("hgf"), 3), 8);
+        due(x.reach(row("gfh"), 3), 6);
+        due(x.reach(row("hh"), 2), NONE);
+        for (int cell = 1; cell < 6; cell++) {
+            x.dead(cell, true);
+        }
+        due(x.reach(row("h"), 1), NONE);
+    }
+
+    static void promise21_reach_byEachWordOneMore() {
+        SlipWheel x = wheel(SANE);
+        tongue(x, "ab;abc;abcd;abcde;abcdef;abcdefg;abcdefgh;abcdefgh");
+        book(x, "a");
+        due(x.reach(row("h"), 1), 7);
+        due(x.reach(row("hhh"), 3), 9);
+    }
+
     static void promise21_reach_onAFullBookAsIfItWereNot() {
         SlipWheel x = full();
         due(x.reach(row("bcd"), 3), 3);

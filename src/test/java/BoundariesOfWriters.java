@@ -278,6 +278,12 @@ public final class BoundariesOfWriters extends Boundaries {
         due(guessedBehind("a", ""), 1);
     }
 
+    static void promise26_guess_byAllOtherWords() {
+        for (String word : new String[] {"a", "c", "d", "e", "f", "g", "h"}) {
+            due(guessedBehind(word, ""), 1);
+        }
+    }
+
     static void promise26_guess_ofLikeOnesTheFirst() {
         due(guessedBehind("bbb", "bbb"), 0);
         due(guessedBehind("a", "bb", "bb"), 1);
@@ -391,6 +397,29 @@ public final class BoundariesOfWriters extends Boundaries {
         due(x.prevented(0), 3);
     }
 
+    static void promise27_prevented_byEachWordOfTheFirstFour() {
+        SlipWheel x = wheel(SANE);
+        book(x, "hgfe");
+        line(x, "agfe");
+        line(x, "hafe");
+        line(x, "hgae");
+        line(x, "hgfa");
+        due(x.prevented(0), NONE);
+        line(x, "hgfe");
+        due(x.prevented(0), 3);
+    }
+
+    static void promise27_prevented_byTheSixthLine() {
+        SlipWheel x = wheel(SANE, SANE, SANE, SANE, SANE);
+        add(x, "bcdef");
+        for (int n = 0; n < 5; n++) {
+            line(x, "hh");
+        }
+        line(x, "def");
+        due(x.prevented(0), 4);
+        due(x.prevented(1), 0b11100);
+    }
+
     static void promise27_prevented_theLastPlaceOfAFullBook() {
         SlipWheel x = wheel(SANE, SANE);
         for (int place = 0; place < 59; place++) {
@@ -457,12 +486,22 @@ public final class BoundariesOfWriters extends Boundaries {
 
     static void promise27_prevented_oneOfWhomNoOtherWordCouldCome() {
         SlipWheel x = wheel(SANE, SANE);
-        add(x, "ab");
-        line(x, "ab");
-        onlyWords(x, 0, "a");
+        add(x, "gh");
+        line(x, "gh");
+        onlyWords(x, 0, "g");
         due(x.prevented(1), 0b10);
-        onlyWords(x, 0, "ah");
+        onlyWords(x, 0, "ag");
         due(x.prevented(1), 0b11);
+    }
+
+    static void promise27_prevented_aMadOneOfWhomItsWordAloneCouldCome() {
+        SlipWheel x = wheel(MAD);
+        add(x, "h");
+        line(x, "h");
+        onlyWords(x, 0, "h");
+        due(x.prevented(1), 0);
+        onlyWords(x, 0, "gh");
+        due(x.prevented(1), 1);
     }
 
     static void promise27_prevented_oneOfWhomNoneCouldCome() {
@@ -850,6 +889,34 @@ public final class BoundariesOfWriters extends Boundaries {
         alike.tongue();
         alike.restore();
         due(portrait(x), portrait(alike));
+    }
+
+    static void promise30_restore_theLastOfAll() {
+        SlipWheel x = wheel(SANE, SANE, SANE, SANE, SANE, SANE);
+        for (int place = 0; place < 59; place++) {
+            x.add(0);
+        }
+        x.add(6);
+        x.weight(5, 7, 8);
+        x.dead(5, true);
+        x.follow(7, 65);
+        x.image();
+        x.undo(1);
+        x.swap(0, 5);
+        x.dead(5, false);
+        x.dead(0, true);
+        x.add(7);
+        x.forget(59);
+        x.weight(5, 7, 3);
+        x.follow(7, 66);
+        x.restore();
+        due(x.read(59, 0), 6);
+        due(x.read(59, 1), 5);
+        due(x.told(5, 10), 8);
+        due(x.told(5, 2), 1);
+        due(x.told(5, 1), 5);
+        due(x.told(0, 1), 0);
+        due(x.follow(7, 0), 65);
     }
 
     static void promise30_restore_again() {
